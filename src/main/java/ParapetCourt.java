@@ -349,14 +349,10 @@ public final class ParapetCourt {
         int why = FINE;
         if (years < 1 || years > YEARS_AT_ONCE) {
             why = BAD_NUMBER;
-        } else if (!wall.hasYears(years)) {
+        } else if (!wall.passYears(years)) {
             why = TOO_MANY;
         }
-        if (refused(why)) {
-            return NONE;
-        }
-        wall.passYears(years);
-        return wall.mossOfAll();
+        return refused(why) ? NONE : wall.mossOfAll();
     }
 
     public int carve(int place, int lenient) {
@@ -481,7 +477,8 @@ public final class ParapetCourt {
         if (refused(twoPlacesWhy(place, other))) {
             return NONE;
         }
-        return wall.steps(place, other);
+        int between = Math.abs(place - other);
+        return Math.min(between, wall.places - between);
     }
 
     public int mercy(int stone, int place) {
@@ -1043,6 +1040,10 @@ public final class ParapetCourt {
             return kind == WORD && key == NONE && word != TOO_LONG;
         }
 
+        private boolean isStepWord() {
+            return kind == WORD && key >= YEAR && key != TURNS && key != STANDS && key != END;
+        }
+
         /** Of one TOKEN the least kind is told, so one that is none goes ahead of what else is wrong. */
         private boolean refuse(int why) {
             fault = kind == BAD ? NO_TOKEN : why;
@@ -1062,6 +1063,16 @@ public final class ParapetCourt {
             if (!isSign(wanted)) {
                 return refuse(CANNOT_STAND);
             }
+            step();
+            return true;
+        }
+
+        /** One of < > = by its sign's number. */
+        private boolean takeComparison() {
+            if (kind != SIGN || value == ';') {
+                return refuse(CANNOT_STAND);
+            }
+            number = value;
             step();
             return true;
         }
@@ -1141,7 +1152,7 @@ public final class ParapetCourt {
         }
 
         private boolean isStone(long place) {
-            return isPlace(place) && (stones >> place & 1) == 1;
+            return place >= 0 && place < places && (stones >> place & 1) == 1;
         }
 
         private boolean isCrow(int crow) {
@@ -1174,14 +1185,11 @@ public final class ParapetCourt {
             lenient[place] = newLenient;
             moss[place] = newMoss;
             strength[place] = newStrength;
-            counsel[place] = 0;
         }
 
         private void makeGap(int place) {
             stones &= ~(1 << place);
-            lenient[place] = 0;
             moss[place] = 0;
-            strength[place] = 0;
             counsel[place] = 0;
             for (int c = 0; c < crows; c++) {
                 if (crowAt[c] == place) {
@@ -1246,27 +1254,25 @@ public final class ParapetCourt {
             return sum;
         }
 
-        private boolean hasYears(int years) {
-            return year + years <= LAST_YEAR;
-        }
-
-        private void passYears(int years) {
+        /** False, and nothing is done, if these years would go beyond the last. */
+        private boolean passYears(int years) {
+            if (year + years > LAST_YEAR) {
+                return false;
+            }
             year += years;
             for (int p = 0; p < places; p++) {
                 if (isStone(p)) {
                     moss[p] = Math.min(MOST_MOSS, moss[p] + years);
                 }
             }
-        }
-
-        private int steps(int place, int other) {
-            int between = Math.abs(place - other);
-            return Math.min(between, places - between);
+            return true;
         }
 
         /** MERCY when so many years of moss have come. */
         private int mercyFor(int stone, int place, int years) {
-            return lenient[stone] + Math.min(MOST_MOSS, moss[stone] + years) + steps(stone, place) + counsel[stone];
+            int between = Math.abs(stone - place);
+            int distance = Math.min(between, places - between);
+            return lenient[stone] + Math.min(MOST_MOSS, moss[stone] + years) + distance + counsel[stone];
         }
 
         private int turningFrom(int guilt, int place, int years) {
@@ -1288,7 +1294,7 @@ public final class ParapetCourt {
         }
 
         private boolean isMost(int turning) {
-            return 2 * Integer.bitCount(turning) > stoneCount();
+            return 2 * Integer.bitCount(turning) > Integer.bitCount(stones);
         }
 
         /** A TRIAL: whether he is CONDEMNED. */
@@ -1424,25 +1430,19 @@ public final class ParapetCourt {
         private boolean reads() {
             draft.empty();
             oddsTold = false;
-            for (int part = 0; part <= TAPE_BYTES && !text.isAtEnd(); part++) {
-                if (!readPart()) {
-                    return false;
+            boolean isGood = true;
+            for (int part = 0; part <= TAPE_BYTES && isGood && !text.isAtEnd(); part++) {
+                if (text.isWord(ODDS)) {
+                    isGood = readOdds();
+                } else if (text.isWord(STONE)) {
+                    isGood = readStone();
+                } else if (text.isWord(GAP)) {
+                    isGood = readGap();
+                } else {
+                    isGood = text.isWord(CROW) ? readCrow() : text.refuse(CANNOT_STAND);
                 }
             }
-            return true;
-        }
-
-        private boolean readPart() {
-            if (text.isWord(ODDS)) {
-                return readOdds();
-            }
-            if (text.isWord(STONE)) {
-                return readStone();
-            }
-            if (text.isWord(GAP)) {
-                return readGap();
-            }
-            return text.isWord(CROW) ? readCrow() : text.refuse(CANNOT_STAND);
+            return isGood;
         }
 
         private boolean readOdds() {
@@ -1605,12 +1605,11 @@ public final class ParapetCourt {
             depth = 0;
             draft.forget();
             draft.told = true;
-            for (int i = 0; i <= TERMS_BYTES && !text.isAtEnd(); i++) {
-                if (!(text.isWord(END) ? readEnd() : readStep())) {
-                    return false;
-                }
+            boolean isGood = true;
+            for (int i = 0; i <= TERMS_BYTES && isGood && !text.isAtEnd(); i++) {
+                isGood = text.isWord(END) ? readEnd() : beginsStep() && readStep();
             }
-            return depth == 0 || text.refuse(CANNOT_STAND);
+            return isGood && (depth == 0 || text.refuse(CANNOT_STAND));
         }
 
         private boolean readEnd() {
@@ -1623,55 +1622,56 @@ public final class ParapetCourt {
             return text.takeSign(';');
         }
 
-        private boolean readStep() {
-            if (!isStepWord()) {
+        private boolean beginsStep() {
+            if (!text.isStepWord()) {
                 return text.refuse(CANNOT_STAND);
             }
-            int word = text.key;
             if (draft.steps >= STEPS) {
                 return text.refuse(ONE_TOO_MANY);
             }
-            if (word == WHEN || word == LOOP) {
+            if (text.isWord(WHEN) || text.isWord(LOOP)) {
                 if (depth >= DEPTH) {
                     return text.refuse(TOO_DEEP);
                 }
                 openers[depth] = draft.size;
                 depth++;
             }
+            return true;
+        }
+
+        private boolean readStep() {
+            int word = text.key;
             text.step();
-            return readRest(word) && text.takeSign(';');
-        }
-
-        private boolean isStepWord() {
-            return text.kind == Text.WORD && text.key >= YEAR && text.key != TURNS && text.key != STANDS
-                && text.key != END;
-        }
-
-        private boolean readRest(int word) {
+            boolean isGood;
             switch (word) {
-                case YEAR: return takeNumberOf(word, YEARS_A_STEP);
-                case LOOP: return takeNumberOf(word, MOST_ROUNDS);
-                case TRY: return readTry();
-                case FLY: return readFly();
-                case WHEN: return readTest();
+                case YEAR: isGood = readCount(word, YEARS_A_STEP); break;
+                case LOOP: isGood = readCount(word, MOST_ROUNDS); break;
+                case TRY: isGood = readTry(); break;
+                case FLY: isGood = readFly(); break;
+                case WHEN: isGood = readTest(); break;
                 case ANY:
                 case STOP:
                     draft.add(word, 0, 0, 0);
-                    return true;
-                default:
-                    if (!takeStone()) {
-                        return false;
-                    }
-                    draft.add(word, named, 0, 0);
-                    return true;
+                    isGood = true;
+                    break;
+                default: isGood = readStone(word); break;
             }
+            return isGood && text.takeSign(';');
         }
 
-        private boolean takeNumberOf(int word, int most) {
+        private boolean readCount(int word, int most) {
             if (!text.takeNumber(1, most)) {
                 return false;
             }
             draft.add(word, text.number, 0, 0);
+            return true;
+        }
+
+        private boolean readStone(int word) {
+            if (!takeStone()) {
+                return false;
+            }
+            draft.add(word, named, 0, 0);
             return true;
         }
 
@@ -1680,7 +1680,7 @@ public final class ParapetCourt {
                 return false;
             }
             int guilt = text.number;
-            if (!takePlace()) {
+            if (!text.takeNumber(0, wall.places - 1)) {
                 return false;
             }
             int place = text.number;
@@ -1708,51 +1708,22 @@ public final class ParapetCourt {
         }
 
         private boolean readTest() {
-            if (text.isWord(TURNS)) {
-                return readTurns();
-            }
-            if (text.isWord(MOSS)) {
-                return readMoss();
-            }
-            if (!text.takeWord(STANDS) || !takeStone()) {
-                return false;
-            }
-            draft.add(STANDS, named, 0, 0);
-            return true;
-        }
-
-        private boolean readTurns() {
-            text.step();
-            if (!takeStone() || !takePlace()) {
-                return false;
-            }
-            int place = text.number;
-            if (!text.takeNumber(0, MOST_GUILT)) {
-                return false;
-            }
-            draft.add(TURNS, named, place, text.number);
-            return true;
-        }
-
-        private boolean readMoss() {
-            text.step();
-            if (!takeStone()) {
-                return false;
-            }
-            int compares = text.value;
-            if (text.kind != Text.SIGN || compares == ';') {
+            boolean isTurns = text.isWord(TURNS);
+            boolean isMoss = text.isWord(MOSS);
+            if (!isTurns && !isMoss && !text.isWord(STANDS)) {
                 return text.refuse(CANNOT_STAND);
             }
+            int test = text.key;
             text.step();
-            if (!text.takeNumber(0, MOST_MOSS)) {
+            if (!takeStone() || isTurns && !text.takeNumber(0, wall.places - 1) || isMoss && !text.takeComparison()) {
                 return false;
             }
-            draft.add(MOSS, named, compares, text.number);
+            int second = text.number;
+            if (isTurns && !text.takeNumber(0, MOST_GUILT) || isMoss && !text.takeNumber(0, MOST_MOSS)) {
+                return false;
+            }
+            draft.add(test, named, second, text.number);
             return true;
-        }
-
-        private boolean takePlace() {
-            return text.takeNumber(0, wall.places - 1);
         }
 
         private boolean takeStone() {
@@ -1790,49 +1761,51 @@ public final class ParapetCourt {
             drawn = seed;
             done = 0;
             missed = 0;
-            years = 0;
-            condemned = 0;
-            wrong = 0;
+            years = wall.year;
+            condemned = wall.condemned;
+            wrong = wall.wrong;
             leftOver = false;
             int at = 0;
             for (int tick = 0; tick < TICKS && at >= 0 && at < terms.size && !leftOver; tick++) {
-                if (terms.op[at] == END) {
-                    at = afterEnd(at);
-                } else if (done >= STEPS_LIVED) {
+                boolean isStep = terms.op[at] != END;
+                if (isStep && done >= STEPS_LIVED) {
                     leftOver = true;
                 } else {
-                    done++;
-                    at = afterStep(at);
+                    done += isStep ? 1 : 0;
+                    missed += isDone(at) ? 0 : 1;
+                    at = whereNext(at);
                 }
             }
+            years = wall.year - years;
+            condemned = wall.condemned - condemned;
+            wrong = wall.wrong - wrong;
         }
 
-        private int afterEnd(int at) {
-            int opener = terms.jump[at];
-            if (opener < 0 || terms.op[opener] != LOOP || rounds[opener] <= 1) {
-                return at + 1;
-            }
-            rounds[opener]--;
-            return opener + 1;
-        }
-
-        private int afterStep(int at) {
+        private int whereNext(int at) {
+            int jump = terms.jump[at];
             switch (terms.op[at]) {
                 case STOP:
                     return terms.size;
                 case LOOP:
                     rounds[at] = terms.a[at];
-                    return isEmptyBlock(at) ? terms.jump[at] : at + 1;
+                    return isEmptyBlock(at) ? jump : at + 1;
                 case TURNS:
                 case STANDS:
                 case MOSS:
-                    return holds(at) ? at + 1 : terms.jump[at];
+                    return holds(at) ? at + 1 : jump;
+                case END:
+                    return goesRound(jump) ? jump + 1 : at + 1;
                 default:
-                    if (!isDone(at)) {
-                        missed++;
-                    }
                     return at + 1;
             }
+        }
+
+        private boolean goesRound(int opener) {
+            if (opener < 0 || opener >= terms.size || terms.op[opener] != LOOP) {
+                return false;
+            }
+            rounds[opener]--;
+            return rounds[opener] > 0;
         }
 
         private boolean isEmptyBlock(int at) {
@@ -1861,39 +1834,21 @@ public final class ParapetCourt {
             return sign == '>' ? moss > number : moss == number;
         }
 
-        /** Does a STEP; false if it is MISSED. */
+        /** Does what a STEP says; false if it is MISSED. */
         private boolean isDone(int at) {
             int a = terms.a[at];
+            int b = terms.b[at];
+            boolean did = terms.c[at] == 1;
             switch (terms.op[at]) {
-                case YEAR: return passes(a);
-                case TRY: return isRight(a, terms.b[at], terms.c[at] == 1);
+                case YEAR: return wall.passYears(a);
+                case TRY: return wall.holdTrial(a, b, did) == did;
                 case ANY: return triesAny();
                 case KIND: return reshapes(a, MOST_LENIENT);
                 case HARSH: return reshapes(a, 0);
                 case CLEAR: return clears(a);
-                case FLY: return flies(a, terms.b[at]);
-                default: return false;
+                case FLY: return flies(a, b);
+                default: return true;
             }
-        }
-
-        private boolean passes(int many) {
-            if (!wall.hasYears(many)) {
-                return false;
-            }
-            wall.passYears(many);
-            years += many;
-            return true;
-        }
-
-        private boolean isRight(int guilt, int place, boolean did) {
-            boolean isCondemned = wall.holdTrial(guilt, place, did);
-            if (isCondemned) {
-                condemned++;
-            }
-            if (isCondemned != did) {
-                wrong++;
-            }
-            return isCondemned == did;
         }
 
         private boolean triesAny() {
@@ -1902,7 +1857,7 @@ public final class ParapetCourt {
             }
             boolean did = draw(MOST_ODDS) < wall.odds;
             int guilt = draw(GUILT_DRAWN);
-            return isRight(guilt, draw(wall.places), did);
+            return wall.holdTrial(guilt, draw(wall.places), did) == did;
         }
 
         private int draw(int by) {

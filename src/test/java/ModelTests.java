@@ -1271,7 +1271,7 @@ public final class ModelTests {
                     text(true, i == 0 || random.nextInt(3) > 0 ? goodWall() : spoil(goodWall()));
                 } else if (kind == 1 || kind == 3) {
                     text(false, random.nextInt(3) > 0 ? goodTerms() : spoil(goodTerms()));
-                } else if (kind == 2) {
+                } else if (kind == 2 || kind == 4) {
                     threes();
                 } else {
                     one();
@@ -1445,20 +1445,36 @@ public final class ModelTests {
             int[] make = {tray, random.nextInt(4), 3 * many};
             due("tray", invoke("tray", make), model.call("tray", make));
             int guilt = random.nextInt(40);
+            int kind = random.nextInt(1024) & random.nextInt(1024);
+            int harsh = random.nextInt(1024) & random.nextInt(1024) & ~kind;
             for (int i = 0; i < many; i++) {
                 int place = number(model.s.places.size());
                 int other = number(model.s.places.size());
-                boolean turns = model.s.place(place) && model.s.turns(other, guilt, place);
-                put(tray, 3 * i, verdicts ? random.nextInt(40) : place);
+                int his = verdicts ? number(40) : guilt;
+                boolean told = false;
+                if (model.s.place(place)) {
+                    told = verdicts ? byCuts(his, place, kind, harsh) : model.s.turns(other, his, place);
+                }
+                put(tray, 3 * i, verdicts ? his : place);
                 put(tray, 3 * i + 1, verdicts ? place : other);
-                put(tray, 3 * i + 2, verdicts || random.nextInt(9) == 0 ? random.nextInt(2) : turns ? 1 : 0);
+                put(tray, 3 * i + 2, random.nextInt(15) == 0 ? number(2) : told ? 1 : 0);
             }
             for (String name : new String[] {"fits", "fitsBy", "ask", "cuts", "cutOf"}) {
-                int n = verdicts == name.startsWith("cut") ? random.nextInt(many + 1) : 0;
+                int n = verdicts != name.startsWith("cut") ? 0 : random.nextInt(3) == 0 ? random.nextInt(many + 1) : many;
                 int[] args = {tray, n, random.nextInt(Math.max(2, name.equals("cutOf") ? model.s.places.size() : 2))};
                 int[] used = name.equals("fits") || name.equals("cuts") ? Arrays.copyOf(args, 2) : args;
                 due(name + Arrays.toString(used), invoke(name, used), model.call(name, used));
             }
+        }
+
+        /** A verdict that holds by these cuts, so that a tray of them has a way. */
+        boolean byCuts(int guilt, int place, int kind, int harsh) {
+            int set = 0;
+            for (int p = 0; p < model.s.places.size(); p++) {
+                boolean turns = model.s.turns(p, guilt, place) && (kind >> p & 1) == 0 || (harsh >> p & 1) == 1;
+                set |= model.s.stone(p) && turns ? 1 << p : 0;
+            }
+            return model.s.stone(place) && 2 * Integer.bitCount(set) > model.s.stones();
         }
 
         /** Mostly below a bound, sometimes at it or far away. */

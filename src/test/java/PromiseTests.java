@@ -1155,6 +1155,14 @@ public final class PromiseTests {
         is("an empty loop", lives(RING, "loop 99;loop 99;end;end;year 3;", -1), 101);
         is("a when that does not hold", lives(RING, "when stands cob;year 1;end;when turns cob 0 5;year 1;end;", -1), 3);
         is("turns", lives(RING, "when turns cob 0 6;year 1;end;", -1), 2);
+        is("does not turn by as much as mercy", lives(RING, "when turns cob 0 5;year 1;end;", -1), 1);
+        is("moss below", lives(RING, "when moss bay < 3;year 1;end;", -1), 2);
+        is("moss not below", lives(RING, "when moss bay < 2;year 1;end;", -1), 1);
+        is("moss above", lives(RING, "when moss bay > 1;year 1;end;", -1), 2);
+        is("moss not above", lives(RING, "when moss bay > 2;year 1;end;", -1), 1);
+        is("moss as told", lives(RING, "when moss bay = 2;year 1;end;", -1), 2);
+        is("moss not as told", lives(RING, "when moss bay = 1;year 1;end;", -1), 1);
+        is("of a gap moss is 0", lives(RING, "try 99 0 0;when moss cob = 0;year 1;end;", -1), 3);
         is("a gap turns from nobody", lives(RING, "try 99 0 0;when turns cob 0 99;year 1;end;", -1), 2);
         is("a gap does not stand", lives(RING, "try 99 0 0;when stands cob;year 1;end;", -1), 2);
         is("moss", lives(RING, "when moss bay = 2;year 1;end;when moss bay < 3;year 1;end;when moss bay > 3;year 1;end;", -1), 4);
@@ -1176,6 +1184,10 @@ public final class PromiseTests {
         }
         x.live(0);
         is("years beyond 9,999", x.lived(0), 2);
+        x = of(RING, "try 99 0 1;try 99 0 0;when stands ash;end;");
+        x.live(0);
+        x.live(1);
+        is("of the latest life alone", x.lived(0) * 100 + x.lived(2) * 10 + x.lived(3), 121);
         x = of(RING, "year 20;loop 99;loop 3;year 20;end;end;");
         x.live(0);
         x.live(0);
