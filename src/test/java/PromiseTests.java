@@ -1,14 +1,6 @@
-import java.nio.charset.StandardCharsets;
-import java.util.Arrays;
-
 /** For each promise of the document: ordinary inputs, the edges that it names, and wrong inputs. */
-public final class PromiseTests {
-    private static final String RING = "odds 4;stone ash lenient 5;stone bay lenient 8 moss 2;stone cob lenient 3 strong 1;"
-        + "gap;stone dun lenient 10;crow rook on ash against;crow jay on dun for;";
+public final class PromiseTests extends Checks {
     private static final int[] ODD_NUMBERS = {Integer.MIN_VALUE, -2, -1, 100, 10000, Integer.MAX_VALUE};
-
-    private static int wrong = 0;
-    private static int promise = 0;
 
     public static void main(String[] args) {
         newObject();
@@ -37,100 +29,7 @@ public final class PromiseTests {
         livingEdges();
         means();
         marking();
-        System.out.println(wrong == 0 ? "all promises hold" : wrong + " checks failed");
-        if (wrong != 0) {
-            System.exit(1);
-        }
-    }
-
-    // ---- helpers
-
-    private static void is(String what, long got, long want) {
-        if (got != want) {
-            wrong++;
-            System.out.println("promise " + promise + ": " + what + " answered " + got + ", due is " + want);
-        }
-    }
-
-    private static void is(String what, boolean got, boolean want) {
-        is(what, got ? 1 : 0, want ? 1 : 0);
-    }
-
-    private static void fine(ParapetCourt x, String what, long got, long want) {
-        is(what, got, want);
-        is(what + ": status", x.status(), 0);
-    }
-
-    private static void fine(ParapetCourt x, String what, boolean got) {
-        is(what, got, true);
-        is(what + ": status", x.status(), 0);
-    }
-
-    private static void not(ParapetCourt x, String what, long got, int status) {
-        is(what, got, -1);
-        is(what + ": status", x.status(), status);
-    }
-
-    private static void not(ParapetCourt x, String what, boolean got, int status) {
-        is(what, got, false);
-        is(what + ": status", x.status(), status);
-    }
-
-    private static void fraction(ParapetCourt x, String what, boolean got, long top, long bottom) {
-        fine(x, what, got);
-        is(what + ": top", x.top(), top);
-        is(what + ": bottom", x.bottom(), bottom);
-    }
-
-    private static void feedText(ParapetCourt x, String text) {
-        byte[] bytes = text.getBytes(StandardCharsets.ISO_8859_1);
-        byte[] whole = Arrays.copyOf(bytes, (bytes.length + 19) / 20 * 20);
-        for (int i = 0; i < whole.length; i += 20) {
-            int[] five = new int[5];
-            for (int j = 0; j < 20; j++) {
-                five[j / 4] = five[j / 4] << 8 | whole[i + j] & 255;
-            }
-            x.feed(five[0], five[1], five[2], five[3], five[4]);
-        }
-    }
-
-    private static int wall(ParapetCourt x, String text) {
-        feedText(x, text);
-        return x.wall(text.length());
-    }
-
-    private static int terms(ParapetCourt x, String text) {
-        feedText(x, text);
-        return x.terms(text.length());
-    }
-
-    private static ParapetCourt of(String text) {
-        ParapetCourt x = new ParapetCourt();
-        if (wall(x, text) < 0) {
-            wrong++;
-            System.out.println("promise " + promise + ": a wall was refused: " + text + " fault " + x.fault(0) + " at " + x.fault(1));
-        }
-        return x;
-    }
-
-    private static ParapetCourt of(String text, String terms) {
-        ParapetCourt x = of(text);
-        if (terms(x, terms) < 0) {
-            wrong++;
-            System.out.println("promise " + promise + ": terms were refused: " + terms + " fault " + x.fault(0) + " at " + x.fault(1));
-        }
-        return x;
-    }
-
-    private static void put(ParapetCourt x, int tray, long... numbers) {
-        x.tray(tray, 3, numbers.length);
-        for (int i = 0; i < numbers.length; i++) {
-            x.write(tray, i, numbers[i]);
-        }
-    }
-
-    private static String times(String part, int many) {
-        return part.repeat(many);
+        end("all promises hold");
     }
 
     // ---- promises 1 to 4
