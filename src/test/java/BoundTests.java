@@ -20,6 +20,7 @@ public final class BoundTests extends Checks {
         strengthLeft();
         whoWentWithIt();
         mossAndYears();
+        mossCopied();
         crowsFlyOff();
         standAndFall();
         leastGuilt();
@@ -96,8 +97,10 @@ public final class BoundTests extends Checks {
             fine(x, "what was refused made no new row", x.read(tray, 59), 5);
             fine(x, "59", x.tray(tray, tray, 59));
             not(x, "no last place", x.read(tray, 59), 4);
+            x.write(tray, 0, 6);
             fine(x, "60 anew", x.tray(tray, tray, 60));
-            fine(x, "all 0", x.read(tray, 59), 0);
+            fine(x, "all 0: the last", x.read(tray, 59), 0);
+            fine(x, "all 0: the first", x.read(tray, 0), 0);
             fine(x, "1", x.tray(tray, tray, 1));
             fine(x, "the only place", x.read(tray, 0), 0);
             not(x, "behind it", x.read(tray, 1), 4);
@@ -315,13 +318,14 @@ public final class BoundTests extends Checks {
         sentence(26, "by the fewest steps round the ring, one way or the other");
         for (int places = 1; places <= 10; places++) {
             ParapetCourt x = of(times("gap;", places));
-            for (int p = 0; p < places; p++) {
+            for (int pair = 0; pair < places * places; pair++) {
+                int from = pair / places;
+                int to = pair % places;
                 int steps = 0;
-                while ((p + steps) % places != 0 && Math.floorMod(p - steps, places) != 0) {
+                while ((from + steps) % places != to && Math.floorMod(from - steps, places) != to) {
                     steps++;
                 }
-                fine(x, "from " + p + " of " + places, x.far(p, 0), steps);
-                fine(x, "to " + p + " of " + places, x.far(0, p), steps);
+                is("from " + from + " to " + to + " of " + places, x.far(from, to), steps);
             }
             fine(x, "the last one beside the first", x.far(places - 1, 0), places == 1 ? 0 : 1);
             not(x, "no such PLACE", x.far(places, 0), 2);
@@ -379,7 +383,12 @@ public final class BoundTests extends Checks {
                 is("rightly", x.many(7), 0);
             }
         }
-        ParapetCourt x = of("stone a lenient 0;stone b lenient 0;stone c lenient 30;stone d lenient 30;gap;");
+        ParapetCourt x = of("stone a lenient 9;gap;");
+        fine(x, "as much as MERCY", x.verdict(9, 0), 0);
+        fine(x, "one more", x.verdict(10, 0), 1);
+        fine(x, "tried with as much", x.judge(9, 0, false), 0);
+        fine(x, "tried with one more", x.judge(10, 0, true), 1);
+        x = of("stone a lenient 0;stone b lenient 0;stone c lenient 30;stone d lenient 30;gap;");
         fine(x, "half", x.verdict(9, 0), 0);
         fine(x, "half at a GAP", x.verdict(9, 4), 0);
         x.open(3);
@@ -463,10 +472,29 @@ public final class BoundTests extends Checks {
         fine(x, "1", x.clear(0), 1);
     }
 
+    private static void mossCopied() {
+        sentence(16, "MOSS of all PLACES (0 of GAPS) comes to a TRAY, by numbers: how many (4)");
+        for (int places = 1; places <= 10; places++) {
+            ParapetCourt x = of(stones(places, "lenient 0 moss 9"));
+            x.open(0);
+            x.tray(0, 0, places - 1);
+            not(x, "one number too few", x.copyMoss(0), 4);
+            x.tray(0, 0, places);
+            fine(x, "just enough", x.copyMoss(0), places);
+            for (int p = 0; p < places; p++) {
+                is("MOSS", x.read(0, p), p == 0 ? 0 : 9);
+            }
+            x.tray(0, 0, places + 1);
+            x.write(0, places, 77);
+            fine(x, "one more", x.copyMoss(0), places);
+            is("the number behind stays", x.read(0, places), 77);
+        }
+    }
+
     private static void crowsFlyOff() {
         sentence(21, "CROWS on it are on none");
         ParapetCourt x = of("stone a lenient 5;stone b lenient 5;crow c on a for;crow d on a against;crow e on b for;crow f on a for;");
-        x.open(0);
+        fine(x, "carried off", x.open(0));
         for (int crow : new int[] {0, 1, 3}) {
             not(x, "on none", x.crow(crow, 0), 8);
         }
@@ -474,13 +502,15 @@ public final class BoundTests extends Checks {
         fine(x, "another stays", x.crow(2, 0), 1);
         is("their number stays", x.many(2), 4);
         not(x, "a fifth still", x.hatch(1, true), 7);
-        x.mend(0, 5, 1);
+        fine(x, "set again", x.mend(0, 5, 1));
         fine(x, "none on it", x.stone(0, 3), 0);
         fine(x, "MERCY without them", x.stone(0, 4), 5);
         sentence(23, "1 if it was on one ahead, else 0");
         fine(x, "from none", x.fly(1, 0), 0);
         fine(x, "from one", x.fly(2, 0), 1);
         fine(x, "both", x.stone(0, 4), 5);
+        fine(x, "none on the other", x.stone(1, 3), 0);
+        fine(x, "MERCY of the other", x.stone(1, 4), 5);
         not(x, "it is there", x.fly(2, 0), 9);
         sentence(17, "CROWS on it fly off: they are on no STONE");
         x.judge(50, 0, false);
@@ -513,6 +543,10 @@ public final class BoundTests extends Checks {
         fine(x, "two, two, one", x.fall(6), 1);
         fine(x, "two, three, two", x.fall(7), 2);
         fine(x, "all alike, three", x.fall(8), 1);
+        x = of("stone a lenient 4;stone b lenient 4;");
+        fine(x, "the first is PLACE 0", x.fall(5), 0);
+        sentence(30, "of several the first");
+        fine(x, "the first is PLACE 0", x.stand(5), 0);
         x = of("gap;stone a lenient 30;");
         fine(x, "one STONE", x.stand(0), 1);
         fine(x, "one STONE", x.fall(0), 1);
@@ -611,6 +645,17 @@ public final class BoundTests extends Checks {
         fine(x, "two fit, 6 and 7", x.fits(0, 2), 2);
         fine(x, "they are parted: where", x.ask(0, 2, 0), 1);
         fine(x, "they are parted: which", x.ask(0, 2, 1), 0);
+        x = of("stone z lenient 30;stone a lenient 8;stone c lenient 6;");
+        put(x, 0, 2, 2, 1, 1, 1, 0);
+        fine(x, "7 and 8 fit", x.fits(0, 2), 2);
+        fine(x, "z, a turn from none of them, c parts them: where", x.ask(0, 2, 0), 0);
+        fine(x, "z, a turn from none of them, c parts them: which", x.ask(0, 2, 1), 2);
+        x.open(2);
+        put(x, 0, 0, 1, 0, 1, 1, 0);
+        fine(x, "0 to 8 fit", x.fits(0, 2), 9);
+        fine(x, "none parts them: the first PLACE", x.ask(0, 2, 0), 0);
+        fine(x, "none parts them: the first STONE", x.ask(0, 2, 1), 0);
+        x = of("stone a lenient 5;gap;gap;gap;");
         put(x, 0, 0, 0, 1, 0, 0, 0);
         fine(x, "none fit", x.fits(0, 2), 0);
         not(x, "none fit", x.ask(0, 2, 1), 8);
@@ -705,6 +750,10 @@ public final class BoundTests extends Checks {
         put(y, 0, 9, 0, 1, 99, 1, 0);
         not(y, "by none", y.cuts(0, 2), 8);
         not(y, "by none", y.cutOf(0, 2, 0), 8);
+        y = of("stone a lenient 9;");
+        put(y, 0, 9, 0, 0, 10, 0, 1, 9, 0, 1);
+        fine(y, "as much as MERCY, one more: as it is", y.cuts(0, 2), 0);
+        not(y, "not both of the same", y.cuts(0, 3), 8);
         ParapetCourt z = of(stones(10, "lenient 30"));
         put(z, 0, 0, 0, 1);
         fine(z, "six of ten", z.cuts(0, 1), 6);
@@ -724,6 +773,9 @@ public final class BoundTests extends Checks {
         x.open(3);
         fine(x, "two of three turn: one that does is carried off", x.windowSet(9, 0), 2);
         fine(x, "his own STONE is none", x.windowSet(9, 1), 4);
+        x = of("stone a lenient 9;stone b lenient 30;");
+        not(x, "as much as MERCY: nobody turns", x.windowSet(9, 0), 8);
+        fine(x, "one more: a turns", x.windowSet(10, 0), 2);
         x = of("stone a lenient 0;stone b lenient 30;");
         fine(x, "one of two", x.windowSet(9, 0), 2);
         not(x, "where the other can't go", x.windowSet(9, 1), 8);
@@ -833,6 +885,7 @@ public final class BoundTests extends Checks {
         fine(y, "it turns by 3: AGAINST keeps FOR from it", y.game(13, 0, 2), 1);
         fine(y, "it turns by 3: that is the move", y.moveOf(13, 0, 2), 0);
         fine(y, "it turns by 4: FOR can't help", y.game(14, 0, 2), 1);
+        playsOut();
         sentence(44, "at a GAP, with CROWS of the WALL on all STONES");
         ParapetCourt z = of("gap;stone a lenient 5;crow b on a for;crow c on a for;crow d on a for;crow e on a for;");
         fine(z, "MERCY is 18", z.game(16, 0, 0), 0);
@@ -846,6 +899,44 @@ public final class BoundTests extends Checks {
         z = of("stone a lenient 30;stone b lenient 11;stone c lenient 11;");
         fine(z, "the first by which it is best", z.moveOf(10, 0, 1), 1);
         fine(z, "none helps: the first", z.moveOf(0, 0, 4), 0);
+    }
+
+    private static void plays(ParapetCourt x, int guilt, int place, int... due) {
+        for (int turns = 0; turns <= 4; turns++) {
+            fine(x, guilt + " at " + place + ", " + turns + " turns", x.game(guilt, place, turns), due[turns]);
+        }
+    }
+
+    /** Of the STONES that a CROW can make turn, or keep from it, each counsel takes one by turns. */
+    private static void playsOut() {
+        sentence(44, "a STONE on which none was set in the game, or does nothing");
+        // MERCY of all four is 12 for PLACE 1.
+        ParapetCourt x = of("stone a lenient 11;stone b lenient 12;stone c lenient 11;stone d lenient 10;");
+        plays(x, 9, 1, 0, 0, 0, 0, 0);
+        plays(x, 10, 1, 0, 1, 1, 2, 2);
+        plays(x, 12, 1, 0, 1, 1, 2, 2);
+        plays(x, 13, 1, 4, 4, 3, 3, 2);
+        plays(x, 15, 1, 4, 4, 3, 3, 2);
+        plays(x, 16, 1, 4, 4, 4, 4, 4);
+        x.open(3);
+        plays(x, 12, 1, 0, 1, 1, 2, 2);
+        plays(x, 13, 1, 3, 3, 2, 2, 2);
+        x.open(2);
+        plays(x, 12, 1, 0, 1, 1, 1, 1);
+        plays(x, 13, 1, 2, 2, 1, 1, 1);
+        // Two that turn by 1, two that do not by 0.
+        x = of("stone a lenient 11;stone b lenient 12;stone c lenient 10;stone d lenient 9;");
+        plays(x, 12, 1, 2, 3, 2, 3, 2);
+        sentence(45, "the first's first PLACE, of all that are as good the first");
+        fine(x, "one turn: one that it makes turn", x.moveOf(12, 1, 1), 0);
+        fine(x, "three turns: as good as any", x.moveOf(12, 1, 3), 0);
+        x = of("stone a lenient 10;stone b lenient 11;stone c lenient 10;stone d lenient 10;");
+        // From 12 at 1: a, c turn by 1, b, d do not by -1 and 0: a is not as good as b in one turn.
+        fine(x, "one turn", x.moveOf(12, 1, 1), 3);
+        x = of("stone a lenient 30;stone b lenient 30;stone c lenient 30;stone d lenient 12;");
+        fine(x, "one turn: the last alone", x.moveOf(12, 3, 1), 3);
+        fine(x, "two turns: FOR can't undo it", x.moveOf(12, 3, 2), 3);
+        fine(x, "none can be made turn: the first", x.moveOf(9, 3, 2), 0);
     }
 
     private static void lots() {
@@ -1085,6 +1176,9 @@ public final class BoundTests extends Checks {
             fine(x, "the mean", x.mean(from, 20));
             is("as by live()", x.top() * 20, sum * x.bottom());
         }
+        ParapetCourt all = of("stone a lenient 5;stone b lenient 5;stone c lenient 5;", "year 1;");
+        fraction(all, "each seed counts", all.mean(0, 1), 3, 1);
+        fraction(all, "each seed counts", all.mean(0, 20), 3, 1);
         sentence(48, "a seed (0 to 9,999)");
         bound(x, "live", 0, 9999, x::live);
         sentence(49, "Of live() latest with STATUS 0");
@@ -1102,6 +1196,18 @@ public final class BoundTests extends Checks {
         fine(y, "mean() changes nothing", y.lived(1), 7);
         y.live(0);
         fine(y, "the latest", y.lived(1), 8);
+        y = of("stone a lenient 5 strong 9;stone b lenient 5 strong 9;",
+            "try 99 0 0;loop 99;clear a;clear a;clear a;end;try 99 0 0;stop;");
+        for (int i = 0; i < 2; i++) {
+            fine(y, "all are done", y.live(0), 300);
+            is("of the latest alone: MISSED", y.lived(0), 299);
+            is("of the latest alone: CONDEMNED, wrong", y.lived(2) * 10 + y.lived(3), 22);
+            is("left", y.lived(4), 1);
+        }
+        terms(y, "year 1;");
+        y.live(0);
+        is("of the latest alone", y.lived(0) * 1000 + y.lived(2) * 100 + y.lived(3) * 10 + y.lived(4), 0);
+        is("of all", y.many(6) * 10 + y.many(7), 44);
     }
 
     // ---- MARKS

@@ -379,6 +379,11 @@ public final class TextBoundTests extends Checks {
         }
         not(x, "no TERMS", x.live(0), 8);
         not(x, "no TERMS", x.mean(0, 1), 8);
+        wall(x, "stone a lenient 9 moss 9;crow b on a for;");
+        fine(x, "a GAP where a mossy STONE was", wall(x, "gap;"), 1);
+        is("no MOSS", x.many(9), 0);
+        x.mend(0, 4, 1);
+        is("no MOSS, no CROWS", x.stone(0, 1) * 100 + x.stone(0, 3) * 10 + x.stone(0, 4), 4);
         fine(x, "the first anew", wall(x, RING), 5);
         is("nothing is left of what became of it", x.many(8) * 1000 + x.many(2) * 100 + x.many(9) * 10 + x.many(4), 23220);
         not(x, "no TERMS", x.live(0), 8);
@@ -458,6 +463,11 @@ public final class TextBoundTests extends Checks {
         termsFail("loop 1 end;", 2, 7);
         termsFail("loop 1;end end;", 2, 11);
         termsFail("when stands ash end;", 2, 16);
+        ParapetCourt x = of(RING);
+        not(x, "two blocks without their ends", terms(x, "loop 1;loop 1;"), 10);
+        not(x, "an end of other TERMS", terms(x, "end;"), 10);
+        not(x, "a FAULT in a block", terms(x, "loop 1;loop 1;loop 1;year 0;"), 10);
+        fine(x, "three blocks anew", terms(x, "loop 1;loop 1;loop 1;end;end;end;"), 3);
         termsFail("turns ash 0 0;", 2, 0);
         termsFail("stands ash;", 2, 0);
         termsFail("moss ash > 1;", 2, 0);
