@@ -750,6 +750,14 @@ public final class BoundTests extends Checks {
         put(y, 0, 9, 0, 1, 99, 1, 0);
         not(y, "by none", y.cuts(0, 2), 8);
         not(y, "by none", y.cutOf(0, 2, 0), 8);
+        // From 5 at 2: b, c, d turn; from 4 at 0: a, b do. One cut is enough for each, none for both.
+        y = of("stone a lenient 3;stone b lenient 2;stone c lenient 3;stone d lenient 3;");
+        put(y, 0, 5, 2, 0, 4, 0, 1);
+        put(y, 1, 4, 0, 1);
+        fine(y, "the first for itself", y.cuts(0, 1), 1);
+        fine(y, "the second for itself", y.cuts(1, 1), 1);
+        fine(y, "both", y.cuts(0, 2), 2);
+        is("one KIND, one HARSH", way(y, 0, 2), "0012");
         y = of("stone a lenient 9;");
         put(y, 0, 9, 0, 0, 10, 0, 1, 9, 0, 1);
         fine(y, "as much as MERCY, one more: as it is", y.cuts(0, 2), 0);
